@@ -58,7 +58,7 @@ public final class LoanWays {
     }
 
     public int variable(int sort, int leaves) {
-        if (!isSort(sort, leaves) || variables.size() >= VARIABLES) {
+        if (!isSort(sort, leaves) || variables.isFull()) {
             return NONE;
         }
         forget();
@@ -116,9 +116,11 @@ public final class LoanWays {
     }
 
     public int judge() {
+        knowLeaves();
         if (leastUnheld() != NONE) {
             return UNHELD;
         }
+        knowLoans();
         return leastClashing() != NONE ? CLASH : 0;
     }
 
@@ -126,10 +128,12 @@ public final class LoanWays {
         if (what != 1 && what != 2) {
             return NONE;
         }
+        knowLeaves();
         int unheld = leastUnheld();
         if (unheld != NONE) {
             return what == 1 ? unheld : leaves.leastTaker(unheld);
         }
+        knowLoans();
         int clashing = leastClashing();
         if (clashing == NONE) {
             return NONE;
@@ -188,10 +192,13 @@ public final class LoanWays {
                 knowWays();
                 return ways.size();
             case 3:
+                knowLoans();
                 return countInForce();
             case 4:
+                knowLeaves();
                 return countUnheld();
             case 5:
+                knowLoans();
                 return countClashing();
             default:
                 return NONE;
@@ -251,13 +258,14 @@ public final class LoanWays {
     private void knowLoans() {
         knowWays();
         if (!loansKnown) {
-            loans.flow();
+            loans.number();
+            loans.flowHoldings();
+            loans.flowUses();
             loansKnown = true;
         }
     }
 
     private int leastUnheld() {
-        knowLeaves();
         for (int p = 0; p < POINTS; p++) {
             if (leaves.missing(p) != 0L) {
                 return p;
@@ -267,7 +275,6 @@ public final class LoanWays {
     }
 
     private int leastClashing() {
-        knowLoans();
         for (int p = 0; p < POINTS; p++) {
             if (loans.leastClash(p) != NONE) {
                 return p;
@@ -277,7 +284,6 @@ public final class LoanWays {
     }
 
     private int countInForce() {
-        knowLoans();
         int pairs = 0;
         for (int p = 0; p < POINTS; p++) {
             pairs += Long.bitCount(loans.inForce(p));
@@ -286,7 +292,6 @@ public final class LoanWays {
     }
 
     private int countUnheld() {
-        knowLeaves();
         int points = 0;
         for (int p = 0; p < POINTS; p++) {
             points += answer(leaves.missing(p) != 0L);
@@ -295,7 +300,6 @@ public final class LoanWays {
     }
 
     private int countClashing() {
-        knowLoans();
         int points = 0;
         for (int p = 0; p < POINTS; p++) {
             points += answer(loans.leastClash(p) != NONE);
@@ -351,6 +355,10 @@ public final class LoanWays {
         private final int[] leafCounts = new int[VARIABLES];
         private int made;
         private long begun;
+
+        boolean isFull() {
+            return made >= VARIABLES;
+        }
 
         int add(int sort, int leafCount) {
             sorts[made] = sort;
@@ -466,10 +474,14 @@ public final class LoanWays {
         private final long[] wanted = new long[POINTS];
         private final long[] given = new long[POINTS];
         private final long[] taken = new long[POINTS];
+        private final int[] usedReferences = new int[POINTS];
+        private final int[] renewedReferences = new int[POINTS];
         private int lends;
 
         Acts(Variables variables) {
             this.variables = variables;
+            Arrays.fill(usedReferences, NONE);
+            Arrays.fill(renewedReferences, NONE);
         }
 
         void put(int p, int kind, int v, int path, int to) {
@@ -481,6 +493,8 @@ public final class LoanWays {
             wanted[p] = leavesWanted(kind, v, path);
             given[p] = leavesGiven(kind, v, path, to);
             taken[p] = leavesTaken(kind, v, path);
+            usedReferences[p] = referenceUsed(kind, v, path);
+            renewedReferences[p] = referenceRenewed(kind, v, to);
         }
 
         int lendsBeside(int p) {
@@ -504,6 +518,22 @@ public final class LoanWays {
         private long leavesTaken(int kind, int v, int path) {
             boolean takes = kind == MOVE || kind == LET || (kind == COPY && variables.isSole(v));
             return takes ? variables.leavesOf(v, path) : 0L;
+        }
+
+        private int referenceUsed(int kind, int v, int path) {
+            boolean through = isOnPlace(kind) && variables.goesThrough(v, path);
+            return through || kind == COPY ? v : NONE;
+        }
+
+        private int referenceRenewed(int kind, int v, int to) {
+            if (kind == LET) {
+                return variables.isReference(v) ? v : NONE;
+            }
+            return kind == LEND || kind == COPY ? to : NONE;
+        }
+
+        private static boolean isOnPlace(int kind) {
+            return kind == READ || kind == MOVE || kind == GIVE || kind == CHANGE || kind == LEND;
         }
 
         long wantedAt(int p) {
@@ -534,23 +564,12 @@ public final class LoanWays {
             return makesLoan(p) && variables.isSole(receivers[p]);
         }
 
-        private boolean isOnPlace(int p) {
-            int kind = kinds[p];
-            return kind == READ || kind == MOVE || kind == GIVE || kind == CHANGE || kind == LEND;
-        }
-
-        /** The reference that the point uses. */
         int usedAt(int p) {
-            boolean through = isOnPlace(p) && variables.goesThrough(places[p], paths[p]);
-            return through || kinds[p] == COPY ? places[p] : NONE;
+            return usedReferences[p];
         }
 
-        /** The reference that the point gives anew. */
         int renewedAt(int p) {
-            if (kinds[p] == LET) {
-                return variables.isReference(places[p]) ? places[p] : NONE;
-            }
-            return kinds[p] == LEND || kinds[p] == COPY ? receivers[p] : NONE;
+            return renewedReferences[p];
         }
 
         /** LET touches no place, and the end of a reference leaves what is behind it as it is. */
@@ -558,7 +577,7 @@ public final class LoanWays {
             if (kinds[p] == END) {
                 return !variables.isReference(places[p]);
             }
-            return isOnPlace(p) || kinds[p] == COPY;
+            return isOnPlace(kinds[p]) || kinds[p] == COPY;
         }
 
         boolean onlyLooks(int p) {
@@ -772,13 +791,7 @@ public final class LoanWays {
             this.ways = ways;
         }
 
-        void flow() {
-            number();
-            flowHoldings();
-            flowUses();
-        }
-
-        private void number() {
+        void number() {
             Arrays.fill(bits, 0L);
             Arrays.fill(loansOf, 0L);
             soleLoans = 0L;
@@ -794,7 +807,7 @@ public final class LoanWays {
             }
         }
 
-        private void flowHoldings() {
+        void flowHoldings() {
             Arrays.fill(holdings, 0L);
             boolean changed = made > 0;
             for (int pass = 0; pass < MOST_PASSES && changed; pass++) {
@@ -844,7 +857,7 @@ public final class LoanWays {
             return changed;
         }
 
-        private void flowUses() {
+        void flowUses() {
             Arrays.fill(usedLater, 0);
             boolean changed = true;
             for (int pass = 0; pass < MOST_PASSES && changed; pass++) {
