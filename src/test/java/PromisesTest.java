@@ -301,6 +301,30 @@ public final class PromisesTest {
         due("never given", y.fault(1), 2);
         due("not taken ahead of it", y.fault(2), NONE);
         firstLeaf();
+        longWay();
+    }
+
+    /** All points on one way, the greatest first, and a way back. */
+    private static void longWay() {
+        LoanWays x = usual();
+        chain(x, 0, 149);
+        for (int p = 149; p > 1; p--) {
+            x.next(p, p - 1, true);
+        }
+        x.act(149, MOVE, 1, 3);
+        x.act(1, READ, 1, path(3, 6));
+        due("from the one end to the other", x.fault(1), 1);
+        due("all points between", x.fault(2), 149);
+        due("all the same", x.count(4), 1);
+        x.act(75, GIVE, 1, 0);
+        due("given between", x.judge(), 0);
+        x.next(1, 0, true);
+        x.act(1, MOVE, 1, 3);
+        x.act(0, READ, 1, 3);
+        due("the way back", x.fault(1), 0);
+        due("taken there", x.fault(2), 1);
+        due("unheld", x.count(4), 2);
+        due("on some ways", x.held(149, 1, 2), 2);
     }
 
     private static void firstLeaf() {
