@@ -102,7 +102,7 @@ final class Cases {
         return x;
     }
 
-    /** Every kind of act on one way with a way back: a change of any of it shows in the answers. */
+    /** Every kind of act on one way with ways back: a change of any of it shows in the answers. */
     static Watched usual() {
         Watched x = variables();
         x.begins(SHARED_B, true);
@@ -118,17 +118,33 @@ final class Cases {
         x.act(149, END, PLAIN_THREE, 0);
         x.chain(USUAL_POINTS);
         x.next(7, 2, true);
+        x.next(149, 5, true);
+        return x;
+    }
+
+    /** The usual object with ten variables more, sixteen in all, of which the last is a sole reference. */
+    static Watched full() {
+        Watched x = usual();
+        for (int v = USUAL_VARIABLES; v < 16; v++) {
+            x.variable((v + 2) % 3, 1);
+        }
         return x;
     }
 
     private static final Supplier<Watched> USUAL = Cases::usual;
+    private static final Supplier<Watched> FULL = Cases::full;
 
     /** The call answers NONE on the usual object, which then answers as one without that call. */
     static void refused(String what, ToIntFunction<Watched> call) {
         refused(USUAL, USUAL_POINTS, what, call);
     }
 
-    /** Answers of one call on a point. */
+    /** The call answers NONE on the object with sixteen variables, and changes nothing of it. */
+    static void refusedOnFull(String what, ToIntFunction<Watched> call) {
+        refused(FULL, USUAL_POINTS, what, call);
+    }
+
+    /** A call on a point, and its answer. */
     interface PointCall {
         int on(Watched x, int p);
     }

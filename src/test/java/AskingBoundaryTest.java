@@ -407,6 +407,19 @@ public final class AskingBoundaryTest {
         due("points", x.count(2), 150);
     }
 
+    private static void promise10_asManyNextAsTheCallsLeaveRoomFor() {
+        Watched x = new Watched();
+        for (int p = 0; p < 125; p++) {
+            x.next(p, 149 - p, true);
+            x.next(p, p, true);
+            x.next(p, 0, true);
+            x.next(p, p + 1, true);
+        }
+        due("points", x.count(2), 150);
+        due("the last one", x.comes(149), 1);
+        due("one in the middle", x.comes(75), 1);
+    }
+
     // ---- promise 11: held
 
     private static void promise11_pointsMinus1And0And149And150() {
@@ -424,6 +437,12 @@ public final class AskingBoundaryTest {
         for (int v : NO_VARIABLES) {
             Cases.refused("held of " + v, x -> x.held(0, v, 0));
         }
+    }
+
+    private static void promise11_theVariableBehindThe16th() {
+        Cases.refusedOnFull("held of 16", x -> x.held(0, 16, 0));
+        Cases.refusedOnFull("held of -1", x -> x.held(0, -1, 0));
+        due("the 16th", Cases.full().held(0, 15, 0), 0);
     }
 
     private static void promise11_leavesBelow0AndBehindTheLast() {
@@ -522,6 +541,12 @@ public final class AskingBoundaryTest {
         }
         Cases.refused("a plain one", x -> x.holds(1, PLAIN_ONE, 0));
         Cases.refused("a plain one of three", x -> x.holds(1, PLAIN_THREE, 0));
+    }
+
+    private static void promise12_theVariableBehindThe16th() {
+        Cases.refusedOnFull("holds of 16", x -> x.holds(1, 16, 0));
+        Cases.refusedOnFull("holds of -1", x -> x.holds(1, -1, 0));
+        due("the 16th", Cases.full().holds(1, 15, 0), 0);
     }
 
     private static void promise12_aPointThatMakesNoLoan() {
@@ -639,6 +664,14 @@ public final class AskingBoundaryTest {
         Cases.refused("a plain one of three", x -> x.used(0, PLAIN_THREE));
         Watched x = Cases.variables();
         due("a plain one where no way comes", x.used(149, PLAIN_ONE), NONE);
+    }
+
+    private static void promise13_theVariableBehindThe16th() {
+        Cases.refusedOnFull("used of 16", x -> x.used(0, 16));
+        Cases.refusedOnFull("used of -1", x -> x.used(0, -1));
+        Watched x = Cases.full();
+        x.act(8, READ, 15, BEHIND);
+        due("the 16th", x.used(0, 15), 1);
     }
 
     private static void promise13_aPointThatNoWayComesTo() {

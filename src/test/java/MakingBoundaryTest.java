@@ -127,18 +127,9 @@ public final class MakingBoundaryTest {
         due("its last leaf", x.held(0, 15, 3), 0);
         for (int sort = 0; sort <= 2; sort++) {
             int asked = sort;
-            Cases.refused(MakingBoundaryTest::full, FEW_POINTS, "a 17th of sort " + sort, y -> y.variable(asked, 1));
+            Cases.refusedOnFull("a 17th of sort " + sort, y -> y.variable(asked, 1));
         }
-        Cases.refused(MakingBoundaryTest::full, FEW_POINTS, "a wrong 17th", y -> y.variable(3, 1));
-    }
-
-    /** The usual object with ten variables more: sixteen in all. */
-    private static Watched full() {
-        Watched x = Cases.usual();
-        for (int v = Cases.USUAL_VARIABLES; v < 16; v++) {
-            x.variable(v % 3, 1);
-        }
-        return x;
+        Cases.refusedOnFull("a wrong 17th", y -> y.variable(3, 1));
     }
 
     private static void promise2_plainOf0And1And4And5Leaves() {
@@ -199,6 +190,13 @@ public final class MakingBoundaryTest {
             Cases.refused("begins " + v, x -> x.begins(v, true));
             Cases.refused("begins not " + v, x -> x.begins(v, false));
         }
+    }
+
+    private static void promise3_theVariableBehindThe16th() {
+        Cases.refusedOnFull("begins 16", x -> x.begins(16, true));
+        Cases.refusedOnFull("begins not 16", x -> x.begins(16, false));
+        Cases.refusedOnFull("begins -1", x -> x.begins(-1, true));
+        due("the 16th", Cases.full().begins(15, true), 1);
     }
 
     private static void promise3_notGivenAtFirst() {
@@ -325,6 +323,15 @@ public final class MakingBoundaryTest {
                 Cases.refused("act " + act + " of " + v, x -> x.act(3, asked, v, 0));
                 Cases.refused("act " + act + " behind " + v, x -> x.act(3, asked, v, BEHIND));
             }
+        }
+    }
+
+    private static void promise4_theVariableBehindThe16th() {
+        for (int act = READ; act <= END; act++) {
+            int asked = act;
+            Cases.refusedOnFull("act " + act + " of 16", x -> x.act(5, asked, 16, 0));
+            Cases.refusedOnFull("act " + act + " behind 16", x -> x.act(5, asked, 16, BEHIND));
+            Cases.refusedOnFull("act " + act + " of -1", x -> x.act(5, asked, -1, 0));
         }
     }
 
@@ -538,6 +545,18 @@ public final class MakingBoundaryTest {
         }
     }
 
+    private static void promise5_theVariableBehindThe16th() {
+        Cases.refusedOnFull("to 16", x -> x.lend(3, 16, PLAIN_ONE, 0));
+        Cases.refusedOnFull("to -1", x -> x.lend(3, -1, PLAIN_ONE, 0));
+        Cases.refusedOnFull("of 16", x -> x.lend(3, SHARED_A, 16, 0));
+        Cases.refusedOnFull("of -1", x -> x.lend(3, SHARED_A, -1, 0));
+        Watched x = Cases.full();
+        due("to the 16th", x.lend(3, 15, PLAIN_ONE, 0), 1);
+        due("through the 16th", x.lend(4, SHARED_A, 15, BEHIND), 1);
+        due("through the 16th to itself", x.lend(5, 15, 15, BEHIND), 1);
+        due("it holds", x.holds(4, 15, 3), 1);
+    }
+
     private static void promise5_ofNoPlace() {
         int[] bad = {-1, MIN, 7, path(1, 7), path(5, 7), path(0, 1), path(1, 0, 1), path(5, 0, 1), 4096,
             path(1, 1, 1, 1, 1), path(5, 1, 1, 1, 1), MAX};
@@ -699,6 +718,16 @@ public final class MakingBoundaryTest {
             Cases.refused("from " + v, x -> x.copy(3, SOLE_A, v));
             Cases.refused("both", x -> x.copy(3, v, v));
         }
+    }
+
+    private static void promise6_theVariableBehindThe16th() {
+        Cases.refusedOnFull("to 16", x -> x.copy(3, 16, SOLE_A));
+        Cases.refusedOnFull("from 16", x -> x.copy(3, SOLE_A, 16));
+        Cases.refusedOnFull("to -1", x -> x.copy(3, -1, SOLE_A));
+        Watched x = Cases.full();
+        due("to the 16th", x.copy(3, 15, SOLE_A), 1);
+        due("it holds", x.holds(4, 15, 0), 1);
+        due("from the 16th", x.copy(3, SOLE_A, 15), 1);
     }
 
     private static void promise6_theFromOneStaysOnlyIfShared() {
