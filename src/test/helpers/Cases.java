@@ -27,6 +27,8 @@ final class Cases {
 
     /** Points of which the usual object has all on its ways, each with another act. */
     static final int[] USUAL_POINTS = {0, 1, 2, 3, 4, 5, 6, 7, 8, 149};
+    static final int[][] USUAL_WAYS = {{0, 1}, {1, 2}, {2, 3}, {3, 4}, {4, 5}, {5, 6}, {6, 7}, {7, 8}, {8, 149},
+        {7, 2}, {149, 5}};
     static final int PLAIN_ONE = 0;
     static final int PLAIN_THREE = 1;
     static final int SHARED_A = 2;
@@ -50,7 +52,7 @@ final class Cases {
         Arrays.sort(methods, Comparator.comparing(Method::getName));
         int cases = 0;
         for (Method m : methods) {
-            if (m.getName().startsWith("promise") && Modifier.isStatic(m.getModifiers())) {
+            if (isCase(m)) {
                 cases++;
                 runOne(m);
             }
@@ -61,22 +63,31 @@ final class Cases {
         }
     }
 
+    /** The bodies of lambdas are methods too, but their names begin otherwise. */
+    private static boolean isCase(Method m) {
+        boolean named = m.getName().startsWith("promise") || m.isAnnotationPresent(Says.class);
+        return named && Modifier.isStatic(m.getModifiers());
+    }
+
     private static void runOne(Method m) throws IllegalAccessException {
         name = m.getName();
         m.setAccessible(true);
         try {
             m.invoke(null);
         } catch (InvocationTargetException e) {
-            wrong++;
-            System.out.println(name + ": " + e.getCause());
+            isWrong(name + ": " + e.getCause());
         }
     }
 
     static void due(String what, int got, int want) {
         if (got != want) {
-            wrong++;
-            System.out.println(name + ": " + what + ": " + got + ", due is " + want);
+            isWrong(name + ": " + what + ": " + got + ", due is " + want);
         }
+    }
+
+    static void isWrong(String what) {
+        wrong++;
+        System.out.println(what);
     }
 
     /** A path by its digits, the first one first: path(2, 5) is part 1 and what is behind that. */
@@ -106,20 +117,30 @@ final class Cases {
     static Watched usual() {
         Watched x = variables();
         x.begins(SHARED_B, true);
-        x.lend(0, SOLE_A, PLAIN_THREE, 2);
-        x.lend(1, SHARED_A, PLAIN_ONE, 0);
-        x.lend(2, SOLE_B, SOLE_A, path(BEHIND, 1));
-        x.act(3, MOVE, PLAIN_THREE, 3);
-        x.act(4, GIVE, PLAIN_ONE, path(1, 6));
-        x.act(5, READ, SHARED_A, BEHIND);
-        x.copy(6, SHARED_A, SHARED_B);
-        x.act(7, CHANGE, SOLE_B, BEHIND);
-        x.act(8, LET, SHARED_B, 0);
-        x.act(149, END, PLAIN_THREE, 0);
-        x.chain(USUAL_POINTS);
-        x.next(7, 2, true);
-        x.next(149, 5, true);
+        for (int p : USUAL_POINTS) {
+            usualAct(x, p);
+        }
+        for (int[] way : USUAL_WAYS) {
+            x.next(way[0], way[1], true);
+        }
         return x;
+    }
+
+    /** Gives a point of the usual object its act. */
+    static void usualAct(Watched x, int p) {
+        switch (p) {
+            case 0 -> x.lend(0, SOLE_A, PLAIN_THREE, 2);
+            case 1 -> x.lend(1, SHARED_A, PLAIN_ONE, 0);
+            case 2 -> x.lend(2, SOLE_B, SOLE_A, path(BEHIND, 1));
+            case 3 -> x.act(3, MOVE, PLAIN_THREE, 3);
+            case 4 -> x.act(4, GIVE, PLAIN_ONE, path(1, 6));
+            case 5 -> x.act(5, READ, SHARED_A, BEHIND);
+            case 6 -> x.copy(6, SHARED_A, SHARED_B);
+            case 7 -> x.act(7, CHANGE, SOLE_B, BEHIND);
+            case 8 -> x.act(8, LET, SHARED_B, 0);
+            case 149 -> x.act(149, END, PLAIN_THREE, 0);
+            default -> x.act(p, NOTHING, 0, 0);
+        }
     }
 
     /** The usual object with ten variables more, sixteen in all, of which the last is a sole reference. */
@@ -164,8 +185,15 @@ final class Cases {
             return x;
         }, points);
         if (!before.equals(after)) {
-            wrong++;
-            System.out.println(name + ": " + what + " has changed something");
+            isWrong(name + ": " + what + " has changed something");
+        }
+    }
+
+    /** What has been changed and changed back answers all questions as the usual object does. */
+    static void isUsualAgain(String what, Supplier<Watched> make) {
+        List<Integer> usual = untouched.computeIfAbsent(USUAL, m -> allAnswers(m, USUAL_POINTS));
+        if (!usual.equals(allAnswers(make, USUAL_POINTS))) {
+            isWrong(name + ": " + what + " is not changed back");
         }
     }
 
