@@ -273,6 +273,33 @@ public final class LongLifeTest {
         due("loans", x.count(1), 60);
     }
 
+    /** Each loan is made by the same point, of other places and for other references by turns. */
+    @Says(AT_MOST)
+    private static void life_otherLoansOfTheSamePoint() {
+        Watched x = Cases.variables();
+        x.chain(0, 1, 2);
+        for (int round = 0; x.calls() < LONG; round++) {
+            String told = "round " + round + ": ";
+            x.act(1, READ, PLAIN_ONE, 0);
+            x.act(2, READ, SOLE_A, BEHIND);
+            x.lend(0, SOLE_A, PLAIN_ONE, 0);
+            due(told + "a sole loan", x.judge(), 4);
+            x.lend(0, SHARED_A, PLAIN_ONE, 0);
+            x.act(2, READ, SHARED_A, BEHIND);
+            due(told + "a shared one", x.judge(), 0);
+            x.act(1, CHANGE, PLAIN_ONE, 0);
+            due(told + "beside a change", x.judge(), 4);
+            x.lend(0, SHARED_A, PLAIN_THREE, 0);
+            due(told + "of another variable", x.judge(), 0);
+            x.act(1, CHANGE, PLAIN_THREE, 2);
+            due(told + "beside a change of that", x.judge(), 4);
+            x.lend(0, SHARED_A, PLAIN_THREE, 1);
+            due(told + "of another leaf", x.judge(), 0);
+            x.act(0, NOTHING, 0, 0);
+            due(told + "of none", x.judge(), 3);
+        }
+    }
+
     /** A ring, of which one act and one way are changed and changed back till the calls are at an end. */
     @Says(AT_MOST)
     private static void life_theSameAnswersEachTime() {

@@ -475,7 +475,7 @@ public final class ModelTest {
     private final int stride;
     private final boolean mostlyGiven;
     private final Model model = new Model();
-    private final LoanWays real = new LoanWays();
+    private final Watched real = new Watched();
     private final StringBuilder told = new StringBuilder();
     private int calls = 0;
 

@@ -28,15 +28,15 @@ public final class PromisesTest {
         return path;
     }
 
-    private static void chain(LoanWays x, int... points) {
+    private static void chain(Watched x, int... points) {
         for (int i = 0; i + 1 < points.length; i++) {
             due("next", x.next(points[i], points[i + 1], true), 1);
         }
     }
 
     /** Variables: 0 plain of one leaf, 1 plain of three, 2 and 3 shared, 4 to 6 sole; plain ones given. */
-    private static LoanWays usual() {
-        LoanWays x = new LoanWays();
+    private static Watched usual() {
+        Watched x = new Watched();
         x.variable(0, 1);
         x.variable(0, 3);
         x.variable(1, 1);
@@ -52,7 +52,7 @@ public final class PromisesTest {
     private static void newObject() {
         part = "1 new object";
         due("NONE", NONE, -1);
-        LoanWays x = new LoanWays();
+        Watched x = new Watched();
         for (int what = 0; what <= 5; what++) {
             due("count " + what, x.count(what), what == 2 ? 1 : 0);
         }
@@ -65,7 +65,7 @@ public final class PromisesTest {
         }
         due("begins", x.begins(0, true), NONE);
         due("read", x.act(0, READ, 0, 0), NONE);
-        LoanWays other = new LoanWays();
+        Watched other = new Watched();
         other.variable(0, 1);
         other.next(0, 1, true);
         due("objects are apart", x.count(0), 0);
@@ -74,7 +74,7 @@ public final class PromisesTest {
 
     private static void variable() {
         part = "2 variable";
-        LoanWays x = new LoanWays();
+        Watched x = new Watched();
         int[][] bad = {{0, 0}, {0, 5}, {0, -1}, {1, 0}, {1, 2}, {2, 0}, {2, 2}, {3, 1}, {-1, 1},
             {Integer.MIN_VALUE, 1}, {0, Integer.MAX_VALUE}};
         for (int[] b : bad) {
@@ -101,7 +101,7 @@ public final class PromisesTest {
 
     private static void begins() {
         part = "3 begins";
-        LoanWays x = usual();
+        Watched x = usual();
         due("no such variable", x.begins(7, true), NONE);
         due("no such variable", x.begins(-1, true), NONE);
         due("not at first", x.held(0, 4, 0), 0);
@@ -116,7 +116,7 @@ public final class PromisesTest {
         }
         due("others stay", x.held(0, 0, 0), 1);
         due("others stay", x.held(0, 4, 0), 1);
-        LoanWays y = new LoanWays();
+        Watched y = new Watched();
         for (int v = 0; v < 16; v++) {
             y.variable(0, 4);
         }
@@ -131,7 +131,7 @@ public final class PromisesTest {
 
     private static void act() {
         part = "4 act";
-        LoanWays x = usual();
+        Watched x = usual();
         x.begins(4, true);
         due("read", x.act(0, READ, 2, BEHIND), 1);
         int[][] bad = {
@@ -173,7 +173,7 @@ public final class PromisesTest {
 
     private static void lend() {
         part = "5 lend";
-        LoanWays x = usual();
+        Watched x = usual();
         int[][] bad = {
             {-1, 2, 0, 0}, {150, 2, 0, 0}, {0, 0, 0, 0}, {0, 1, 0, 0}, {0, 7, 0, 0}, {0, -1, 0, 0},
             {0, 2, 7, 0}, {0, 2, -1, 0}, {0, 2, 0, 7}, {0, 2, 0, -1}, {0, 2, 0, 4096}, {0, 2, 1, 4},
@@ -194,7 +194,7 @@ public final class PromisesTest {
     }
 
     private static void manyLends() {
-        LoanWays x = usual();
+        Watched x = usual();
         for (int i = 0; i < 60; i++) {
             due("lend", x.lend(149 - 2 * i, 2, i % 2 == 0 ? 0 : 3, i % 2 == 0 ? 0 : BEHIND), 1);
         }
@@ -214,7 +214,7 @@ public final class PromisesTest {
 
     private static void copy() {
         part = "6 copy";
-        LoanWays x = usual();
+        Watched x = usual();
         int[][] bad = {{-1, 3, 2}, {150, 3, 2}, {0, 2, 2}, {0, 4, 4}, {0, 4, 2}, {0, 2, 4}, {0, 0, 1},
             {0, 2, 0}, {0, 0, 2}, {0, 7, 2}, {0, 2, 7}, {0, -1, 2}, {0, 2, -1}};
         for (int[] b : bad) {
@@ -236,7 +236,7 @@ public final class PromisesTest {
 
     private static void next() {
         part = "7 next";
-        LoanWays x = usual();
+        Watched x = usual();
         int[][] bad = {{-1, 0}, {150, 0}, {0, -1}, {0, 150}, {Integer.MIN_VALUE, 0}, {0, Integer.MAX_VALUE}};
         for (int[] b : bad) {
             due("next", x.next(b[0], b[1], true), NONE);
@@ -265,7 +265,7 @@ public final class PromisesTest {
 
     private static void judgeUnheld() {
         part = "8, 9 fault 3";
-        LoanWays x = usual();
+        Watched x = usual();
         x.act(5, MOVE, 1, 2);
         x.act(3, MOVE, 1, 2);
         x.act(7, READ, 1, 0);
@@ -290,7 +290,7 @@ public final class PromisesTest {
         x.act(3, CHANGE, 1, 3);
         due("change wants", x.fault(1), 3);
 
-        LoanWays y = usual();
+        Watched y = usual();
         y.act(2, MOVE, 0, 0);
         chain(y, 0, 2, 2);
         due("a way back", y.fault(1), 2);
@@ -306,7 +306,7 @@ public final class PromisesTest {
 
     /** All points on one way, the greatest first, and a way back. */
     private static void longWay() {
-        LoanWays x = usual();
+        Watched x = usual();
         chain(x, 0, 149);
         for (int p = 149; p > 1; p--) {
             x.next(p, p - 1, true);
@@ -328,7 +328,7 @@ public final class PromisesTest {
     }
 
     private static void firstLeaf() {
-        LoanWays x = usual();
+        Watched x = usual();
         x.act(1, MOVE, 1, 3);
         x.act(2, MOVE, 1, 1);
         x.act(3, READ, 1, 0);
@@ -342,7 +342,7 @@ public final class PromisesTest {
         x.next(4, 3, true);
         x.act(0, 0, 0, 0);
         due("no way comes to the third", x.fault(2), 1);
-        LoanWays y = usual();
+        Watched y = usual();
         y.act(0, MOVE, 1, 1);
         y.act(1, GIVE, 1, 0);
         y.act(2, LET, 1, 0);
@@ -369,7 +369,7 @@ public final class PromisesTest {
             {4, path(1, 6, 2), READ, path(1, 6, 2, 4), 1}, {4, path(1, 6, 2, 4), READ, path(1, 6, 2, 3), 0},
             {2, 2, CHANGE, 2, 1}, {2, 2, CHANGE, 3, 0}, {2, 2, MOVE, 0, 1}, {2, path(3, 1), END, 0, 1}};
         for (int[] r : rows) {
-            LoanWays x = usual();
+            Watched x = usual();
             x.lend(3, r[0], 1, r[1]);
             due("act", x.act(1, r[2], 1, r[3]), 1);
             x.act(2, READ, r[0], BEHIND);
@@ -387,7 +387,7 @@ public final class PromisesTest {
     }
 
     private static void clashOfLends() {
-        LoanWays x = usual();
+        Watched x = usual();
         x.lend(0, 2, 0, 0);
         x.lend(1, 3, 0, 0);
         x.act(2, READ, 2, BEHIND);
@@ -401,7 +401,7 @@ public final class PromisesTest {
         due("shared beside sole", x.fault(1), 1);
         x.lend(1, 2, 1, 0);
         due("another variable", x.judge(), 0);
-        LoanWays y = usual();
+        Watched y = usual();
         y.begins(5, true);
         y.lend(1, 4, 0, 0);
         y.act(2, READ, 5, BEHIND);
@@ -411,7 +411,7 @@ public final class PromisesTest {
         due("by itself", y.fault(2), 1);
         y.act(2, READ, 4, BEHIND);
         due("given anew", y.judge(), 0);
-        LoanWays z = usual();
+        Watched z = usual();
         z.lend(2, 2, 0, 0);
         z.lend(1, 3, 0, 0);
         z.act(3, GIVE, 0, 0);
@@ -423,7 +423,7 @@ public final class PromisesTest {
     }
 
     private static void clashOfCopies() {
-        LoanWays x = usual();
+        Watched x = usual();
         x.begins(4, true);
         x.lend(0, 2, 4, path(5, 1));
         x.copy(1, 5, 4);
@@ -447,7 +447,7 @@ public final class PromisesTest {
         due("beside it", x.judge(), 0);
         x.lend(1, 4, 4, BEHIND);
         due("lent anew to itself", x.fault(1), 1);
-        LoanWays y = usual();
+        Watched y = usual();
         y.begins(2, true);
         y.lend(0, 3, 2, BEHIND);
         y.copy(1, 3, 2);
@@ -458,7 +458,7 @@ public final class PromisesTest {
     }
 
     private static void clashBehindFault() {
-        LoanWays x = usual();
+        Watched x = usual();
         x.lend(0, 2, 0, 0);
         x.act(1, GIVE, 0, 0);
         x.act(2, READ, 2, BEHIND);
@@ -478,7 +478,7 @@ public final class PromisesTest {
 
     private static void comes() {
         part = "10 comes";
-        LoanWays x = new LoanWays();
+        Watched x = new Watched();
         due("no point", x.comes(-1), NONE);
         due("no point", x.comes(150), NONE);
         for (int p = 0; p < 149; p++) {
@@ -497,7 +497,7 @@ public final class PromisesTest {
 
     private static void held() {
         part = "11 held";
-        LoanWays x = usual();
+        Watched x = usual();
         int[][] bad = {{-1, 0, 0}, {150, 0, 0}, {0, -1, 0}, {0, 7, 0}, {0, 0, -1}, {0, 0, 1}, {0, 1, 3}, {1, 0, 0}};
         for (int[] b : bad) {
             due("held " + b[0] + " " + b[1] + " " + b[2], x.held(b[0], b[1], b[2]), NONE);
@@ -533,7 +533,7 @@ public final class PromisesTest {
 
     private static void holds() {
         part = "12 holds";
-        LoanWays x = usual();
+        Watched x = usual();
         x.lend(0, 4, 0, 0);
         x.lend(1, 5, 4, path(5, 1));
         x.copy(2, 6, 5);
@@ -569,7 +569,7 @@ public final class PromisesTest {
     }
 
     private static void holdsOnWays() {
-        LoanWays x = usual();
+        Watched x = usual();
         x.lend(1, 4, 0, 0);
         x.lend(2, 4, 1, 0);
         x.lend(3, 5, 4, BEHIND);
@@ -594,7 +594,7 @@ public final class PromisesTest {
 
     private static void used() {
         part = "13 used";
-        LoanWays x = usual();
+        Watched x = usual();
         int[][] bad = {{-1, 4}, {150, 4}, {0, 0}, {0, 1}, {0, 7}, {0, -1}};
         for (int[] b : bad) {
             due("used " + b[0] + " " + b[1], x.used(b[0], b[1]), NONE);
@@ -628,7 +628,7 @@ public final class PromisesTest {
         due("END does not use", x.used(1, 4), 0);
         x.act(2, LET, 4, 0);
         due("LET does not use", x.used(1, 4), 0);
-        LoanWays y = usual();
+        Watched y = usual();
         y.lend(1, 2, 2, BEHIND);
         chain(y, 0, 1, 1);
         due("by this one on a way back", y.used(1, 2), 1);
@@ -638,7 +638,7 @@ public final class PromisesTest {
 
     private static void force() {
         part = "14 force";
-        LoanWays x = usual();
+        Watched x = usual();
         x.lend(1, 4, 0, 0);
         x.lend(2, 5, 4, BEHIND);
         x.act(4, READ, 5, BEHIND);
@@ -676,7 +676,7 @@ public final class PromisesTest {
 
     private static void count() {
         part = "15 count";
-        LoanWays x = usual();
+        Watched x = usual();
         due("no such what", x.count(-1), NONE);
         due("no such what", x.count(6), NONE);
         due("variables", x.count(0), 7);
@@ -700,7 +700,7 @@ public final class PromisesTest {
 
     /** Sixty loans on a way of all points, the least one's number last on it. */
     private static void sixtyLoans() {
-        LoanWays x = new LoanWays();
+        Watched x = new Watched();
         x.variable(0, 1);
         x.begins(0, true);
         for (int v = 1; v < 16; v++) {
@@ -734,7 +734,7 @@ public final class PromisesTest {
     private static void wrongInputs() {
         part = "wrong inputs change nothing";
         int[] odd = {Integer.MIN_VALUE, -150, -2, -1, 16, 150, 4096, Integer.MAX_VALUE};
-        LoanWays x = usual();
+        Watched x = usual();
         x.lend(0, 4, 0, 0);
         x.act(1, READ, 0, 0);
         x.act(2, READ, 4, BEHIND);

@@ -40,10 +40,10 @@ public final class ReadmeTest {
 
     private static String told = "";
 
-    /** Runs the commands there, keeps what they print, and answers their exit code. */
+    /** Runs the commands there, keeps what they print but for errors, and answers their exit code. */
     private static int shell(Path where, String commands) throws Exception {
         Process process = new ProcessBuilder("sh", "-e", "-c", commands).directory(where.toFile())
-                .redirectErrorStream(true).start();
+                .redirectError(ProcessBuilder.Redirect.DISCARD).start();
         process.getOutputStream().close();
         told = new String(process.getInputStream().readAllBytes());
         return process.waitFor();

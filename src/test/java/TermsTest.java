@@ -533,6 +533,28 @@ public final class TermsTest {
         due("given again", y.held(1, PLAIN_ONE, 0), 1);
     }
 
+    @Says("A LEAF is HELD at a point (ahead of its ACT) if on all WAYS to it it was GIVEN and not TAKEN since:")
+    private static void terms_heldEachLeafForItself() {
+        Watched x = partAndMeet(Cases.variables());
+        x.act(1, MOVE, PLAIN_THREE, 1);
+        x.act(2, MOVE, PLAIN_THREE, 2);
+        x.act(3, READ, PLAIN_THREE, 0);
+        due("taken on the one way", x.held(3, PLAIN_THREE, 0), 2);
+        due("taken on the other", x.held(3, PLAIN_THREE, 1), 2);
+        due("taken on neither", x.held(3, PLAIN_THREE, 2), 1);
+        due("the first leaf was taken by", x.fault(2), 1);
+        x.begins(PLAIN_THREE, false);
+        x.act(1, GIVE, PLAIN_THREE, 1);
+        x.act(2, GIVE, PLAIN_THREE, 2);
+        due("given on the one way", x.held(3, PLAIN_THREE, 0), 2);
+        due("given on the other", x.held(3, PLAIN_THREE, 1), 2);
+        due("given on neither", x.held(3, PLAIN_THREE, 2), 0);
+        x.next(1, 2, true);
+        x.next(0, 2, false);
+        x.next(1, 3, false);
+        due("one way: both are given", x.held(3, PLAIN_THREE, 0) + x.held(3, PLAIN_THREE, 1), 2);
+    }
+
     @Says("GIVEN: those that are so at the beginning;")
     private static void terms_givenAtTheBeginning() {
         Watched x = Cases.variables();
@@ -1153,6 +1175,12 @@ public final class TermsTest {
         due("ahead of the first use all the same", x.force(1, 2), 1);
         x.act(3, READ, SOLE_B, BEHIND);
         due("another one is used", x.force(1, 2), 0);
+        x.lend(3, SOLE_A, SOLE_A, BEHIND);
+        due("used by the LEND that then gives it anew", x.force(1, 2), 1);
+        x.copy(3, SOLE_B, SOLE_A);
+        due("used by COPY", x.force(1, 2), 1);
+        x.copy(3, SOLE_A, SOLE_B);
+        due("given anew by COPY", x.force(1, 2), 0);
     }
 
     @Says("A LOAN is IN FORCE at a point if a REFERENCE that HOLDS it there, ahead of its ACT, is USED by a point behind it"
